@@ -1,5 +1,5 @@
 import java.util.ArrayList;
-import java.util.Comparator;
+import java.util.Arrays;
 import java.util.HashSet;
 import java.util.List;
 import java.util.Set;
@@ -110,7 +110,8 @@ final class Model {
         return left.isEmpty();
     }
 
-    private static List<String> names(int w, int h) {
+    /** How a text names each link that can be broken. */
+    static List<String> names(int w, int h) {
         List<String> all = new ArrayList<>();
         for (int y = 0; y < h; y++) {
             for (int x = 0; x < w; x++) {
@@ -180,26 +181,30 @@ final class Model {
         return x < 0 || y < 0 || x >= w || y >= h ? null : Integer.valueOf(w * y + x);
     }
 
-    private int owner(int link, int slot, int without) {
+    /** Who has each slot of each link, asked of all circuits but one. */
+    private int[][] owners(int without) {
+        int[][] table = new int[54][10];
+        for (int[] row : table) {
+            Arrays.fill(row, NONE);
+        }
         for (int c = 0; c < 8; c++) {
-            if (circuits[c] != null && c != without && circuits[c].route != null) {
-                Route route = circuits[c].route;
-                for (int k = 0; k < route.links.size(); k++) {
-                    for (int start : route.starts) {
-                        if (route.links.get(k) == link && (start + k) % s == slot) {
-                            return c;
-                        }
+            for (int k = 0; circuits[c] != null && c != without && k < circuits[c].route.links.size(); k++) {
+                for (int start : circuits[c].route.starts) {
+                    int[] row = table[circuits[c].route.links.get(k)];
+                    if (row[(start + k) % s] != NONE) {
+                        throw new IllegalStateException("two circuits have a slot");
                     }
+                    row[(start + k) % s] = c;
                 }
             }
         }
-        return NONE;
+        return table;
     }
 
-    private int had(int link) {
+    private static int had(int[] row) {
         int sum = 0;
-        for (int slot = 0; slot < s; slot++) {
-            sum += owner(link, slot, NONE) == NONE ? 0 : 1;
+        for (int owner : row) {
+            sum += owner == NONE ? 0 : 1;
         }
         return sum;
     }
@@ -211,13 +216,14 @@ final class Model {
         if (!there) {
             return STATE;
         }
+        int[][] owners = owners(NONE);
         int links = 0;
         int slotsHad = 0;
         int most = NONE;
         for (int link = 0; link < 54; link++) {
             if (end(link) != null) {
                 links++;
-                slotsHad += had(link);
+                slotsHad += had(owners[link]);
                 most = most == NONE || used[link] > used[most] ? link : most;
             }
         }
@@ -231,18 +237,19 @@ final class Model {
         if (what < 0 || what > 3) {
             return OUTSIDE;
         }
-        return new int[] {end(link), broken.contains(link) ? 1 : 0, had(link), used[link]}[what];
+        return new int[] {end(link), broken.contains(link) ? 1 : 0, what == 2 ? had(owners(NONE)[link]) : 0,
+            used[link]}[what];
     }
 
     int slot(int link, int slot) {
-        return end(link) == null || slot < 0 || slot >= s ? UNKNOWN : owner(link, slot, NONE);
+        return end(link) == null || slot < 0 || slot >= s ? UNKNOWN : owners(NONE)[link][slot];
     }
 
     int cut(int link, boolean isBroken) {
         if (end(link) == null || link % 6 < 2) {
             return UNKNOWN;
         }
-        if (broken.contains(link) == isBroken || had(link) != 0) {
+        if (broken.contains(link) == isBroken || had(owners(NONE)[link]) != 0) {
             return STATE;
         }
         if (isBroken) {
@@ -289,8 +296,8 @@ final class Model {
         Set<Integer> passed = new HashSet<>();
         passed.add(from);
         ways(from, to, new ArrayList<>(), passed, all);
-        Comparator<List<Integer>> order = Model::compareWays;
-        all.sort(order);
+        all.sort(Model::compareWays);
+        int[][] owners = owners(without);
         for (List<Integer> way : all) {
             if (kind != 2 && way.size() > all.get(0).size()) {
                 return null;
@@ -299,7 +306,7 @@ final class Model {
             route.links.add(6 * from);
             route.links.addAll(way);
             route.links.add(6 * to + 1);
-            List<Integer> starts = choose(kind, n, freeStarts(route, without));
+            List<Integer> starts = choose(kind, n, freeStarts(route, owners));
             if (starts != null) {
                 route.starts.addAll(starts);
                 return route;
@@ -308,12 +315,12 @@ final class Model {
         return null;
     }
 
-    private List<Integer> freeStarts(Route route, int without) {
+    private List<Integer> freeStarts(Route route, int[][] owners) {
         List<Integer> free = new ArrayList<>();
         for (int start = 0; start < s; start++) {
             boolean meets = false;
             for (int k = 0; k < route.links.size(); k++) {
-                meets |= owner(route.links.get(k), (start + k) % s, without) != NONE;
+                meets |= owners[route.links.get(k)][(start + k) % s] != NONE;
             }
             if (!meets) {
                 free.add(start);
@@ -664,6 +671,7 @@ final class Model {
 
     private int goStrays(int[] ahead, Set<Integer> busy) {
         List<Stray> gone = new ArrayList<>();
+        int[][] owners = owners(NONE);
         for (int link = 0; link < 54; link++) {
             int first = NONE;
             for (int i = 0; i < ahead.length; i++) {
@@ -671,7 +679,7 @@ final class Model {
                     first = i;
                 }
             }
-            int owner = first == NONE ? NONE : owner(link, time % s, NONE);
+            int owner = owners[link][time % s];
             boolean solo = owner != NONE && circuits[owner].kind == 4;
             if (first == NONE || broken.contains(link) || busy.contains(link) || solo) {
                 continue;

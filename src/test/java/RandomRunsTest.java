@@ -1,3 +1,5 @@
+import java.lang.reflect.Method;
+import java.util.List;
 import java.util.Random;
 
 /**
@@ -5,12 +7,14 @@ import java.util.Random;
  * the digest too, behind each call; and a refused call must change nothing.
  */
 public final class RandomRunsTest {
-    private static final int RUNS = 3000;
+    private static final int RUNS = 600;
     private static final String[] NAMES = {"letter", "blank", "fault", "chip", "about", "link", "slot", "cut", "open",
         "as", "circuit", "route", "start", "pair", "move", "close", "feed", "take", "fastest", "stray", "straying",
         "arrived", "faster", "run", "storm", "count", "digest"};
     private static final int[] WEIGHTS = {2, 1, 2, 1, 2, 2, 2, 9, 40, 3, 3, 3, 3, 16, 12, 8, 24, 24, 3, 12, 3, 3, 2,
         36, 4, 2, 1};
+    private static final Method[] OF_PROGRAM = methodsOf(SlotChip.class);
+    private static final Method[] OF_MODEL = methodsOf(Model.class);
 
     private final Random random;
     private final SlotChip program = new SlotChip();
@@ -18,7 +22,7 @@ public final class RandomRunsTest {
     private final StringBuilder told = new StringBuilder();
     private final int run;
     private int wrong;
-    private int[] answers;
+    private final int[] answers;
 
     private RandomRunsTest(int run, int[] answers) {
         this.run = run;
@@ -67,8 +71,9 @@ public final class RandomRunsTest {
         int h = 2 + random.nextInt(2);
         StringBuilder text = new StringBuilder().append(w).append('x').append(h).append(':').append(4 + random.nextInt(7));
         int breaks = random.nextInt(9) < 4 ? 0 : random.nextInt(9);
-        for (int i = 0; i < breaks && text.length() <= 27; i++) {
-            text.append('-').append(random.nextInt(w * h)).append("nesw".charAt(random.nextInt(4)));
+        List<String> names = Model.names(w, h);
+        for (int i = 0; i < breaks && text.length() <= 27 && !names.isEmpty(); i++) {
+            text.append(names.remove(random.nextInt(names.size())));
         }
         return text.toString();
     }
@@ -184,8 +189,8 @@ public final class RandomRunsTest {
             return;
         }
         long before = program.digest();
-        long got = ofProgram(which, a, b, c, d, e);
-        long due = ofModel(which, a, b, c, d, e);
+        long got = answer(program, OF_PROGRAM[which], a, b, c, d, e);
+        long due = answer(model, OF_MODEL[which], a, b, c, d, e);
         told.append(NAMES[which]).append('(').append(a).append(", ").append(b).append(", ").append(c).append(", ")
             .append(d).append(", ").append(e).append(") ").append(got).append('\n');
         boolean refused = which != NAMES.length - 1 && due <= -101;
@@ -205,69 +210,27 @@ public final class RandomRunsTest {
         System.out.println("run " + run + ":\n" + told + "^ " + why);
     }
 
-    private long ofProgram(int which, int a, int b, int c, int d, int e) {
-        SlotChip x = program;
-        switch (NAMES[which]) {
-            case "letter": return x.letter(a);
-            case "blank": return x.blank();
-            case "fault": return x.fault();
-            case "chip": return x.chip();
-            case "about": return x.about(a);
-            case "link": return x.link(a, b);
-            case "slot": return x.slot(a, b);
-            case "cut": return x.cut(a, b == 1);
-            case "open": return x.open(a, b, c, d, e);
-            case "as": return x.as(a, b);
-            case "circuit": return x.circuit(a, b);
-            case "route": return x.route(a, b);
-            case "start": return x.start(a, b);
-            case "pair": return x.pair(a, b);
-            case "move": return x.move(a);
-            case "close": return x.close(a);
-            case "feed": return x.feed(a, b);
-            case "take": return x.take(a, b);
-            case "fastest": return x.fastest();
-            case "stray": return x.stray(a, b, c == 1);
-            case "straying": return x.straying(a, b);
-            case "arrived": return x.arrived(a == 1, b);
-            case "faster": return x.faster();
-            case "run": return x.run(a);
-            case "storm": return x.storm(a, b);
-            case "count": return x.count(a);
-            default: return x.digest();
+    private static Method[] methodsOf(Class<?> type) {
+        Method[] methods = new Method[NAMES.length];
+        for (Method method : type.getDeclaredMethods()) {
+            int which = List.of(NAMES).indexOf(method.getName());
+            if (which >= 0) {
+                methods[which] = method;
+            }
         }
+        return methods;
     }
 
-    private long ofModel(int which, int a, int b, int c, int d, int e) {
-        Model x = model;
-        switch (NAMES[which]) {
-            case "letter": return x.letter(a);
-            case "blank": return x.blank();
-            case "fault": return x.fault();
-            case "chip": return x.chip();
-            case "about": return x.about(a);
-            case "link": return x.link(a, b);
-            case "slot": return x.slot(a, b);
-            case "cut": return x.cut(a, b == 1);
-            case "open": return x.open(a, b, c, d, e);
-            case "as": return x.as(a, b);
-            case "circuit": return x.circuit(a, b);
-            case "route": return x.route(a, b);
-            case "start": return x.start(a, b);
-            case "pair": return x.pair(a, b);
-            case "move": return x.move(a);
-            case "close": return x.close(a);
-            case "feed": return x.feed(a, b);
-            case "take": return x.take(a, b);
-            case "fastest": return x.fastest();
-            case "stray": return x.stray(a, b, c == 1);
-            case "straying": return x.straying(a, b);
-            case "arrived": return x.arrived(a == 1, b);
-            case "faster": return x.faster();
-            case "run": return x.run(a);
-            case "storm": return x.storm(a, b);
-            case "count": return x.count(a);
-            default: return x.digest();
+    private static long answer(Object x, Method method, int... numbers) {
+        Object[] arguments = new Object[method.getParameterCount()];
+        for (int i = 0; i < arguments.length; i++) {
+            boolean flag = method.getParameterTypes()[i] == boolean.class;
+            arguments[i] = flag ? Boolean.valueOf(numbers[i] == 1) : Integer.valueOf(numbers[i]);
+        }
+        try {
+            return ((Number) method.invoke(x, arguments)).longValue();
+        } catch (ReflectiveOperationException thrown) {
+            throw new IllegalStateException("a call threw", thrown);
         }
     }
 }
