@@ -50,6 +50,11 @@ public final class ChipPromisesTest {
         Check.due("link(6, 3)", x.link(6, 3), 2);
         Check.due("link(10, 3)", x.link(10, 3), 2);
         Check.due("about(7), OUT of 3 three times", x.about(7), 19);
+        SlotChip y = Check.chip("2x2:4");
+        y.stray(1, 0, false);
+        y.stray(2, 0, true);
+        y.run(9);
+        Check.due("about(7), OUT of 0 twice", y.about(7), 1);
     }
 
     private static void promise7Link() {

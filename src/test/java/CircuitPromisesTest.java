@@ -144,6 +144,14 @@ public final class CircuitPromisesTest {
         x.pair(1, 0);
         x.run(10);
         Check.due("a new back tells it", x.circuit(0, 9), 4);
+        x.close(1);
+        x.feed(0, 4);
+        x.run(20);
+        x.take(0, 1);
+        circuit("ahead of close", x, 0, 1, 0, 3, 2, 4, 2, 2, -1, 0, 0, 3, 1, 8, 0, 0);
+        Check.due("close", x.close(0), 0);
+        x.open(0, 0, 3, 1, 2);
+        circuit("nothing that came is left", x, 0, 0, 0, 3, 1, 2, 2, 4, -1, 0, 2, 0, 0, 0, 0, x.about(6));
     }
 
     private static void promise18Feed() {
@@ -245,5 +253,13 @@ public final class CircuitPromisesTest {
         Check.due("2 in 20 is 1 in 10: the least", y.fastest(), 0);
         y.close(0);
         Check.due("fastest() then", y.fastest(), 1);
+        y.run(10);
+        y.open(0, 2, 3, 1, 9);
+        y.feed(0, 1);
+        y.run(19);
+        Check.due("1 in 39 is less than 1 in 19", y.fastest(), 0);
+        y.feed(1, 1);
+        y.run(19);
+        Check.due("2 in 58 is more than 1 in 38", y.fastest(), 1);
     }
 }

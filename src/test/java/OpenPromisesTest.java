@@ -8,6 +8,8 @@ public final class OpenPromisesTest {
         promise10FirstWay();
         promise10OnlyWaysWithAsFewHops();
         promise10SixHopsAtMost();
+        promise10NoRouterTwice();
+        promise10AllLinksOfTheRoute();
         promise10Plain();
         promise10Spread();
         promise10Burst();
@@ -132,6 +134,46 @@ public final class OpenPromisesTest {
         x.feed(0, 1);
         Check.due("seven cycles", x.run(7), 0);
         Check.due("the eighth one", x.run(1), 1);
+    }
+
+    /** Ways that pass a router twice would have a start here, since they have a link later than those that do not. */
+    private static void promise10NoRouterTwice() {
+        SlotChip x = Check.chip("2x2:4");
+        x.open(PLAIN, 0, 2, 1, 1);
+        x.open(PLAIN, 0, 2, 3, 1);
+        x.close(0);
+        x.open(PLAIN, 2, 1, 1, 1);
+        x.open(PLAIN, 2, 1, 1, 1);
+        x.open(PLAIN, 2, 1, 2, 1);
+        x.close(2);
+        Check.row("0 is the only start", slot -> x.slot(0, slot), -1, 1, 1, 1);
+        Check.row("EAST of 0 has only 3", slot -> x.slot(3, slot), 3, 3, 0, -1);
+        Check.due("a WIDE one goes round", x.open(WIDE, 0, 1, 1, 1), 2);
+        route("not by 2 and 0 again", x, 2, 0, 4, 15, 20, 7);
+        SlotChip y = Check.chip("3x2:4-3e-5w");
+        y.open(PLAIN, 0, 3, 1, 1);
+        y.open(PLAIN, 0, 3, 3, 1);
+        y.close(0);
+        y.open(PLAIN, 1, 4, 1, 1);
+        y.open(PLAIN, 1, 4, 1, 1);
+        y.close(0);
+        Check.row("0 is the only start", slot -> y.slot(0, slot), -1, 1, 1, 1);
+        Check.row("SOUTH of 1 has all but 2", slot -> y.slot(10, slot), -1, -1, 2, -1);
+        Check.state(y, "not by 1, 2 and 1 again", () -> y.open(WIDE, 0, 4, 1, 1));
+    }
+
+    private static void promise10AllLinksOfTheRoute() {
+        SlotChip x = Check.chip("2x2:6");
+        x.open(PLAIN, 0, 1, 1, 1);
+        x.open(PLAIN, 3, 1, 2, 1);
+        starts("they meet only on OUT", x, 1, 1, 2);
+        x.open(PLAIN, 3, 2, 1, 1);
+        starts("they meet only on IN", x, 2, 0);
+        x.open(PLAIN, 3, 2, 1, 1);
+        starts("and the next one", x, 3, 3);
+        x.open(PLAIN, 2, 1, 2, 1);
+        route("2 to 1 by 0", x, 4, 12, 14, 3, 7);
+        starts("on EAST of 0, 1 is had, on OUT 2, 3, 4", x, 4, 2, 3);
     }
 
     private static void promise10Plain() {

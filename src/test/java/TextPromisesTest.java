@@ -85,6 +85,8 @@ public final class TextPromisesTest {
         fault("3x3:3", 4);
         fault("3x3:-", 4);
         fault("3x3:<", 4);
+        fault("3x3::", 4);
+        fault("3x3:/", 4);
         fault("3x3:1", 5);
         fault("3x3:1-", 5);
         fault("3x3:12", 5);
