@@ -2,17 +2,28 @@ import java.util.function.IntSupplier;
 
 /** What the tests of the promises share: answers held against what is due, and chips written letter by letter. */
 final class Check {
+    /** Numbers that no call has a use for. */
+    static final int[] EXTREMES = {Integer.MIN_VALUE, Integer.MIN_VALUE + 1, -1000, 1000, Integer.MAX_VALUE};
+
     private static int asked;
     private static int wrong;
+    private static int sentences;
+    private static String sentence = "";
 
     private Check() {
+    }
+
+    /** The words of the document that the answers behind this are held against. */
+    static void sentence(String words) {
+        sentence = "[" + words + "] ";
+        sentences++;
     }
 
     static void due(String what, long got, long want) {
         asked++;
         if (got != want) {
             wrong++;
-            System.out.println(what + " answered " + got + ", due is " + want);
+            System.out.println(sentence + what + " answered " + got + ", due is " + want);
         }
     }
 
@@ -52,6 +63,14 @@ final class Check {
         }
     }
 
+    /** The numbers just outside of what is allowed, and those far outside. */
+    static int[] around(int least, int most) {
+        int[] all = java.util.Arrays.copyOf(EXTREMES, EXTREMES.length + 2);
+        all[EXTREMES.length] = least - 1;
+        all[EXTREMES.length + 1] = most + 1;
+        return all;
+    }
+
     static int read(SlotChip x, String text) {
         x.blank();
         write(x, text);
@@ -67,7 +86,8 @@ final class Check {
     }
 
     static void end(String test) {
-        System.out.println(test + ": " + asked + " answers, " + wrong + " of them wrong");
+        String by = sentences == 0 ? "" : " by " + sentences + " sentences";
+        System.out.println(test + ": " + asked + " answers" + by + ", " + wrong + " of them wrong");
         if (wrong != 0 || asked == 0) {
             System.exit(1);
         }
