@@ -133,6 +133,18 @@ public final class ChipBoundariesTest {
         Check.due("about(7)", x.about(7), 53);
         Check.read(x, "3x3:4");
         Check.due("of the next chip", x.about(7), 0);
+        for (int router = 0; router < 9; router++) {
+            SlotChip in = Check.chip("3x3:4");
+            in.stray(router, router, false);
+            in.stray(router, (router + 1) % 9, false);
+            in.run(20);
+            Check.due("IN of " + router, in.about(7), 6 * router);
+            SlotChip out = Check.chip("3x3:4");
+            out.stray(router, router, false);
+            out.stray((router + 1) % 9, router, false);
+            out.run(20);
+            Check.due("OUT of " + router, out.about(7), 6 * router + 1);
+        }
     }
 
     private static void promise6MostOftenOfLikeOnes() {

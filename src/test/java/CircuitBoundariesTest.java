@@ -23,6 +23,7 @@ public final class CircuitBoundariesTest {
         promise19Many();
         promise19NotSoMuch();
         promise19Several();
+        promise19MoreThanOnce();
         promise20NoCircuits();
         promise20NoCycles();
         promise20OfLikeOnes();
@@ -371,6 +372,28 @@ public final class CircuitBoundariesTest {
         Check.unknown(x, "one that is closed", () -> x.take(0, 1));
     }
 
+    private static void promise19MoreThanOnce() {
+        Check.sentence("3: OWED (what was TAKEN and is not told back)");
+        SlotChip x = Check.chip("2x2:4");
+        x.open(0, 0, 1, 4, 15);
+        x.feed(0, 15);
+        x.run(20);
+        for (int taken = 1; taken <= 15; taken++) {
+            Check.due("take(0, 1)", x.take(0, 1), 15 - taken);
+            Check.due("without a back all of it is owed", x.circuit(0, 11), taken);
+        }
+        Check.due("close", x.close(0), 0);
+        x.open(0, 0, 1, 4, 2);
+        Check.row("a new one of that number has none", what -> x.circuit(0, 8 + what), 0, 2, 0, 0, 0, 0, 20);
+        x.feed(0, 2);
+        x.run(20);
+        x.take(0, 1);
+        Check.row("then", what -> x.circuit(0, 8 + what), 0, 0, 1, 1, 2, 0, 20);
+        x.close(0);
+        x.open(0, 0, 1, 4, 2);
+        Check.row("nor the next one, with COME and OWED left", what -> x.circuit(0, 8 + what), 0, 2, 0, 0, 0, 0, 40);
+    }
+
     private static void promise20NoCircuits() {
         Check.sentence("20: NONE: there are none");
         SlotChip none = new SlotChip();
@@ -443,6 +466,20 @@ public final class CircuitBoundariesTest {
         y.feed(1, 2);
         y.run(40);
         Check.due("1 in 40 is less than 2 in 40", y.fastest(), 1);
+        SlotChip z = Check.chip("2x2:4");
+        z.run(20);
+        z.open(0, 0, 1, 1, 9);
+        z.open(0, 1, 0, 1, 9);
+        z.feed(0, 1);
+        z.run(12);
+        z.close(1);
+        z.open(0, 1, 0, 1, 9);
+        z.feed(1, 1);
+        z.run(12);
+        Check.due("1 in 24 is less than 1 in 12", z.fastest(), 1);
+        z.feed(0, 1);
+        z.run(12);
+        Check.due("2 in 36 is more than 1 in 24", z.fastest(), 0);
     }
 
     private static void letterLeavesOrNot() {
