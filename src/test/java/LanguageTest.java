@@ -128,13 +128,15 @@ public final class LanguageTest {
     private static void callsMakeNoObjects() {
         com.sun.management.ThreadMXBean threads =
             (com.sun.management.ThreadMXBean) java.lang.management.ManagementFactory.getThreadMXBean();
-        SlotChip x = Check.chip("3x3:10");
+        SlotChip[] chips = new SlotChip[50];
+        for (int i = 0; i < chips.length; i++) {
+            chips[i] = Check.chip("3x3:10");
+        }
         long id = Thread.currentThread().getId();
-        long sum = 0;
-        sum += allCalls(x);
+        long sum = allCalls(Check.chip("3x3:10"));
         long before = threads.getThreadAllocatedBytes(id);
-        for (int i = 0; i < 50; i++) {
-            sum += allCalls(x);
+        for (int i = 0; i < chips.length; i++) {
+            sum += allCalls(chips[i]);
         }
         long made = threads.getThreadAllocatedBytes(id) - before;
         yes("1,500 calls made " + made + " bytes (" + sum + ")", made < 1000);

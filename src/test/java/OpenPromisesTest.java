@@ -262,28 +262,38 @@ public final class OpenPromisesTest {
 
     /** All slots by all circuits: each has just those that its starts and its route say. */
     private static void promise10NoTwoMeet() {
-        SlotChip x = Check.chip("3x3:7-4e-1w");
-        int[][] calls = {{0, 0, 8, 2, 1}, {1, 8, 0, 2, 1}, {2, 3, 5, 3, 1}, {3, 1, 7, 2, 1}, {4, 7, 1, 1, 1},
-            {2, 3, 5, 2, 1}, {0, 0, 4, 1, 1}, {1, 6, 2, 2, 1}};
         int[][] owner = new int[54][7];
         for (int[] row : owner) {
             java.util.Arrays.fill(row, -1);
         }
-        for (int[] call : calls) {
-            int c = x.open(call[0], call[1], call[2], call[3], call[4]);
-            for (int place = 0; c >= 0 && place < x.circuit(c, 5) + 2; place++) {
+        SlotChip x = eightUnlike();
+        for (int c = 0; c < x.count(0); c++) {
+            for (int place = 0; place < x.circuit(c, 5) + 2; place++) {
                 for (int start = 0; start < x.circuit(c, 3); start++) {
+                    int link = x.route(c, place);
                     int slot = (x.start(c, start) + place) % 7;
-                    Check.due("a slot is had by none ahead of it", owner[x.route(c, place)][slot], -1);
-                    owner[x.route(c, place)][slot] = c;
+                    Check.due("a slot is had by none ahead of it", owner[link][slot], -1);
+                    owner[link][slot] = c;
                 }
             }
         }
+        SlotChip again = eightUnlike();
         for (int link = 0; link < 54; link++) {
-            for (int slot = 0; slot < 7 && x.link(link, 0) != -101; slot++) {
-                Check.due("slot(" + link + ", " + slot + ")", x.slot(link, slot), owner[link][slot]);
+            boolean there = again.link(link, 0) != -101;
+            for (int slot = 0; slot < 7 && there; slot++) {
+                Check.due("slot(" + link + ", " + slot + ")", again.slot(link, slot), owner[link][slot]);
             }
         }
+    }
+
+    private static SlotChip eightUnlike() {
+        SlotChip x = Check.chip("3x3:7-4e-1w");
+        int[][] calls = {{0, 0, 8, 2, 1}, {1, 8, 0, 2, 1}, {2, 3, 5, 3, 1}, {3, 1, 7, 2, 1}, {4, 7, 1, 1, 1},
+            {2, 3, 5, 2, 1}, {0, 0, 4, 1, 1}, {1, 6, 2, 2, 1}};
+        for (int[] call : calls) {
+            x.open(call[0], call[1], call[2], call[3], call[4]);
+        }
+        return x;
     }
 
     private static void promise11As() {

@@ -7,7 +7,9 @@ import java.util.Random;
  * the digest too, behind each call; and a refused call must change nothing.
  */
 public final class RandomRunsTest {
-    private static final int RUNS = 600;
+    private static final int RUNS = 1200;
+    /** An object is used for 512 calls at most: each drawn one, and the digest behind it. */
+    private static final int MOST_CALLS = 256;
     private static final String[] NAMES = {"letter", "blank", "fault", "chip", "about", "link", "slot", "cut", "open",
         "as", "circuit", "route", "start", "pair", "move", "close", "feed", "take", "fastest", "stray", "straying",
         "arrived", "faster", "run", "storm", "count", "digest"};
@@ -22,6 +24,8 @@ public final class RandomRunsTest {
     private final StringBuilder told = new StringBuilder();
     private final int run;
     private int wrong;
+    private int calls;
+    private long digest = model.digest();
     private final int[] answers;
 
     private RandomRunsTest(int run, int[] answers) {
@@ -47,20 +51,16 @@ public final class RandomRunsTest {
     }
 
     private int go() {
-        int calls = 0;
         if (random.nextInt(20) > 0) {
-            calls += read(chipText());
+            read(chipText());
         }
-        int most = 150 + random.nextInt(300);
-        while (calls < most && wrong == 0) {
-            if (random.nextInt(60) == 0) {
-                calls += read(random.nextBoolean() ? chipText() : faultyText());
+        while (calls < MOST_CALLS && wrong == 0) {
+            if (random.nextInt(120) == 0) {
+                read(random.nextBoolean() ? chipText() : faultyText());
             } else if (random.nextInt(400) == 0) {
                 call(3, 0, 0, 0, 0, 0);
-                calls++;
             } else {
                 drawCall();
-                calls++;
             }
         }
         return wrong;
@@ -85,23 +85,18 @@ public final class RandomRunsTest {
         return text.toString();
     }
 
-    private int read(String text) {
-        int calls = 0;
+    private void read(String text) {
         if (random.nextInt(8) > 0) {
             call(1, 0, 0, 0, 0, 0);
-            calls++;
         }
         for (int i = 0; i < text.length(); i++) {
             call(0, text.charAt(i), 0, 0, 0, 0);
-            calls++;
             if (random.nextInt(6) == 0) {
                 call(2, 0, 0, 0, 0, 0);
-                calls++;
             }
         }
         call(2, 0, 0, 0, 0, 0);
         call(3, 0, 0, 0, 0, 0);
-        return calls + 2;
     }
 
     private int number(int from, int to) {
@@ -185,22 +180,23 @@ public final class RandomRunsTest {
     }
 
     private void call(int which, int a, int b, int c, int d, int e) {
-        if (wrong != 0) {
+        if (wrong != 0 || calls >= MOST_CALLS) {
             return;
         }
-        long before = program.digest();
+        long before = digest;
         long got = answer(program, OF_PROGRAM[which], a, b, c, d, e);
         long due = answer(model, OF_MODEL[which], a, b, c, d, e);
         told.append(NAMES[which]).append('(').append(a).append(", ").append(b).append(", ").append(c).append(", ")
             .append(d).append(", ").append(e).append(") ").append(got).append('\n');
         boolean refused = which != NAMES.length - 1 && due <= -101;
         answers[5 * which + (refused ? (int) (-100 - due) : 0)]++;
-        long after = program.digest();
+        calls++;
+        digest = program.digest();
         if (got != due) {
             fail("due is " + due);
-        } else if (refused && before != after) {
+        } else if (refused && before != digest) {
             fail("the refused call changed something");
-        } else if (after != model.digest()) {
+        } else if (digest != model.digest()) {
             fail("the digest is another one then");
         }
     }

@@ -1,6 +1,7 @@
 import java.math.BigInteger;
 import java.util.ArrayList;
 import java.util.List;
+import java.util.function.Supplier;
 
 /** The boundary cases of promises 25, 27, 28, and of 512 calls, sentence by sentence. */
 public final class TotalBoundariesTest {
@@ -243,14 +244,17 @@ public final class TotalBoundariesTest {
 
     private static void promise28Wraps() {
         Check.sentence("28: 31 times h, and it (as longs, wrapping)");
-        SlotChip x = busy();
         boolean below = false;
         boolean above = false;
-        for (int i = 0; i < 16; i++) {
-            x.run(1);
-            below |= x.digest() < 0;
-            above |= x.digest() > Integer.MAX_VALUE;
-            Check.due("digest()", x.digest(), digestOf(numbersOf(x, "")));
+        for (int cycles = 1; cycles <= 16; cycles++) {
+            int its = cycles;
+            long digest = digest("behind " + cycles + " cycles", "", () -> {
+                SlotChip x = busy();
+                x.run(its);
+                return x;
+            });
+            below |= digest < 0;
+            above |= digest > Integer.MAX_VALUE;
         }
         Check.due("some are below 0", below ? 1 : 0, 1);
         Check.due("some are above all ints", above ? 1 : 0, 1);
@@ -270,19 +274,14 @@ public final class TotalBoundariesTest {
         }
     }
 
-    private static List<Integer> numbersOf(SlotChip x, String page) {
+    /** What digest() tells of, asked of objects that are made alike: no one of them is asked too often. */
+    private static List<Integer> numbersOf(Supplier<SlotChip> made, String page) {
         List<Integer> all = new ArrayList<>();
-        for (int what = 0; what <= 7; what++) {
-            all.add(x.about(what));
-        }
-        for (int link = 0; link < 54; link++) {
-            for (int what = 0; what <= 3 && x.link(link, 0) != -101; what++) {
-                all.add(x.link(link, what));
-            }
-        }
+        addChip(all, made.get());
         for (int circuit = 0; circuit < 8; circuit++) {
-            addCircuit(all, x, circuit);
+            addCircuit(all, made.get(), circuit);
         }
+        SlotChip x = made.get();
         for (int stray = 0; stray < x.count(2); stray++) {
             for (int what = 0; what <= 4; what++) {
                 all.add(x.straying(stray, what));
@@ -303,6 +302,18 @@ public final class TotalBoundariesTest {
         return all;
     }
 
+    private static void addChip(List<Integer> all, SlotChip x) {
+        for (int what = 0; what <= 7; what++) {
+            all.add(x.about(what));
+        }
+        for (int link = 0; link < 54; link++) {
+            boolean there = x.link(link, 0) != -101;
+            for (int what = 0; what <= 3 && there; what++) {
+                all.add(x.link(link, what));
+            }
+        }
+    }
+
     private static void addCircuit(List<Integer> all, SlotChip x, int circuit) {
         if (x.circuit(circuit, 0) == -101) {
             return;
@@ -319,64 +330,82 @@ public final class TotalBoundariesTest {
         }
     }
 
-    private static void digest(String what, SlotChip x, String page) {
-        Check.due("digest() " + what, x.digest(), digestOf(numbersOf(x, page)));
+    private static long digest(String what, String page, Supplier<SlotChip> made) {
+        long digest = made.get().digest();
+        Check.due("digest() " + what, digest, digestOf(numbersOf(made, page)));
+        return digest;
     }
 
     private static void promise28EachNumber() {
         Check.sentence("28: none of a kind, and as many as there can be");
         for (int[] size : Sizes.ALL) {
-            SlotChip x = Check.chip(Sizes.text(size, 10));
-            digest("of a chip alone", x, "");
-            for (int circuit = 0; circuit < 8; circuit++) {
-                x.open(circuit % 5, circuit % 4, (circuit + 1) % 4, 1 + circuit % 2, 15);
+            for (int steps = 0; steps <= 4; steps++) {
+                int its = steps;
+                digest("behind step " + steps, steps == 4 ? "~".repeat(30) : "", () -> filled(size, its));
             }
-            digest("of eight circuits", x, "");
-            for (int circuit = 0; circuit < 8; circuit++) {
-                x.feed(circuit, 99);
-            }
-            x.storm(12, 12);
-            digest("of twelve strays", x, "");
-            x.run(7);
-            digest("in the midst", x, "");
-            Check.write(x, "~".repeat(30));
-            digest("with a full page", x, "~".repeat(30));
         }
-        SlotChip six = Check.chip("3x3:10-0e-3e-7n-5w");
-        six.open(1, 0, 2, 4, 15);
-        six.open(0, 3, 4, 1, 15);
-        digest("of a route of eight, and of what was refused", six, "");
+        digest("of a route of eight, and of what was refused", "", () -> {
+            SlotChip six = Check.chip("3x3:10-0e-3e-7n-5w");
+            six.open(1, 0, 2, 4, 15);
+            six.open(0, 3, 4, 1, 15);
+            return six;
+        });
+    }
+
+    /** A chip; with eight circuits; with full queues and twelve strays; in the midst; with a full page. */
+    private static SlotChip filled(int[] size, int steps) {
+        SlotChip x = Check.chip(Sizes.text(size, 10));
+        for (int circuit = 0; circuit < 8 && steps > 0; circuit++) {
+            x.open(circuit % 5, circuit % 4, (circuit + 1) % 4, 1 + circuit % 2, 15);
+        }
+        for (int circuit = 0; circuit < 8 && steps > 1; circuit++) {
+            x.feed(circuit, 99);
+        }
+        if (steps > 1) {
+            x.storm(12, 12);
+        }
+        if (steps > 2) {
+            x.run(7);
+        }
+        Check.write(x, steps > 3 ? "~".repeat(30) : "");
+        return x;
     }
 
     // ---- An object is used for at most 512 calls; the last of them counts as the first does.
 
+    /** A chip by seven calls: blank(), five letters, chip(). */
+    private static SlotChip bySevenCalls() {
+        return Check.chip("2x2:4");
+    }
+
     private static void callsRun() {
         Check.sentence("What it is: at most 512 calls: TIME");
-        SlotChip x = Check.chip("2x2:7");
-        for (int call = 7; call <= 511; call++) {
+        SlotChip x = bySevenCalls();
+        for (int call = 8; call <= 511; call++) {
             x.run(40);
         }
-        Check.due("the 512th call", x.about(6), 505 * 40);
-        SlotChip y = Check.chip("2x2:4");
+        Check.due("the 512th call", x.about(6), 504 * 40);
+        SlotChip y = bySevenCalls();
         y.open(0, 3, 2, 4, 15);
         y.feed(0, 99);
-        for (int call = 9; call <= 510; call++) {
+        for (int call = 10; call <= 510; call++) {
             y.run(40);
         }
-        Check.due("1 in so many is more than none", y.fastest(), 0);
-        Check.due("the 512th call", y.about(6), 502 * 40);
+        Check.due("the 511th call", y.fastest(), 0);
+        Check.due("the 512th call", y.about(6), 501 * 40);
     }
 
     private static void callsWait() {
         Check.sentence("What it is: at most 512 calls: DELAY");
-        SlotChip x = Check.chip("2x2:4-0e");
+        SlotChip x = bySevenCalls();
+        x.cut(3, true);
         x.stray(0, 1, true);
-        for (int call = 11; call <= 509; call++) {
+        for (int call = 10; call <= 509; call++) {
             x.run(40);
         }
         Check.due("the 510th call", x.cut(3, false), 0);
         Check.due("the 511th call", x.run(2), 1);
-        Check.due("the 512th call", x.arrived(true, 2), 499 * 40 + 2);
+        Check.due("the 512th call", x.arrived(true, 2), 500 * 40 + 2);
     }
 
     private static void callsRead() {
@@ -397,40 +426,40 @@ public final class TotalBoundariesTest {
 
     private static void callsOfCircuits() {
         Check.sentence("What it is: at most 512 calls: DONE, and circuits opened and closed");
-        SlotChip x = Check.chip("2x2:4");
+        SlotChip x = bySevenCalls();
         x.open(0, 0, 1, 4, 15);
         x.open(0, 1, 0, 4, 1);
         x.pair(0, 1);
-        int calls = 9;
         int done = 0;
-        while (calls < 506) {
+        for (int call = 11; call <= 505; call += 3) {
             x.feed(0, 15);
             done += x.run(40);
             x.take(0, 15);
-            calls += 3;
         }
-        Check.due("15 each time", done, 166 * 15);
-        Check.due("all are told back", x.run(40), 0);
-        Check.row("the last calls", what -> x.circuit(0, 8 + what), 0, 15, 0, 0, 166 * 15);
-        SlotChip y = Check.chip("2x2:10");
-        for (int call = 7; call <= 511; call += 2) {
+        Check.due("15 each time", done, 165 * 15);
+        Check.due("the 506th call", x.run(40), 0);
+        Check.row("the calls behind it", what -> x.circuit(0, 8 + what), 0, 15, 0, 0, 165 * 15);
+        Check.due("the 512th call", x.count(4), 165 * 15);
+        SlotChip y = bySevenCalls();
+        for (int call = 8; call <= 509; call += 2) {
             Check.due("open", y.open(call % 5, 0, 3, 4, 15), 0);
-            if (call < 511) {
-                Check.due("close", y.close(0), 0);
-            }
+            Check.due("close", y.close(0), 0);
         }
+        Check.due("the 510th call", y.about(5), 0);
+        Check.due("the 511th call", y.open(0, 0, 3, 4, 15), 0);
         Check.due("the 512th call", y.about(5), 16);
     }
 
     private static void callsStorm() {
         Check.sentence("What it is: at most 512 calls: ARRIVED");
-        SlotChip x = Check.chip("2x2:4");
+        SlotChip x = bySevenCalls();
         int came = 0;
-        for (int call = 7; call <= 509; call += 2) {
+        for (int call = 8; call <= 509; call += 2) {
             Check.due("storm", x.storm(12, call), 12);
             came += x.run(40);
         }
-        Check.due("all arrived", came, 252 * 12);
-        Check.due("the 511th and the 512th call", x.arrived(true, 0) + x.arrived(false, 0), came);
+        Check.due("all arrived", came, 251 * 12);
+        Check.due("the 510th and the 511th call", x.arrived(true, 0) + x.arrived(false, 0), came);
+        Check.due("the 512th call", x.count(2), 0);
     }
 }

@@ -121,7 +121,8 @@ public final class TotalPromisesTest {
             all.add(x.about(what));
         }
         for (int link = 0; link < 54; link++) {
-            for (int what = 0; what <= 3 && x.link(link, 0) != -101; what++) {
+            boolean there = x.link(link, 0) != -101;
+            for (int what = 0; what <= 3 && there; what++) {
                 all.add(x.link(link, what));
             }
         }
@@ -159,6 +160,16 @@ public final class TotalPromisesTest {
     private static void promise28Digest() {
         SlotChip x = Check.chip("3x2:7-0e-5w");
         Check.due("digest() of a chip", x.digest(), digestOf(numbersOf(x, "")));
+        for (int runs = 0; runs < 12; runs++) {
+            SlotChip y = inTheMidst(runs);
+            Check.due("digest() in the midst of all", y.digest(), digestOf(numbersOf(y, "3x3:")));
+        }
+        SlotChip y = inTheMidst(12);
+        Check.due("digest() twice", y.digest(), y.digest());
+    }
+
+    private static SlotChip inTheMidst(int runs) {
+        SlotChip x = Check.chip("3x2:7-0e-5w");
         x.open(1, 0, 5, 3, 9);
         x.open(3, 1, 5, 2, 9);
         x.open(0, 5, 0, 1, 4);
@@ -168,11 +179,10 @@ public final class TotalPromisesTest {
         x.feed(2, 7);
         x.storm(10, 4711);
         Check.write(x, "3x3:");
-        for (int i = 0; i < 12; i++) {
+        for (int i = 0; i < runs; i++) {
             x.run(3);
             x.take(0, 1);
-            Check.due("digest() in the midst of all", x.digest(), digestOf(numbersOf(x, "3x3:")));
         }
-        Check.due("digest() again", x.digest(), digestOf(numbersOf(x, "3x3:")));
+        return x;
     }
 }
