@@ -229,6 +229,16 @@ public final class ChipBoundariesTest {
         x.run(40);
         Check.due("a stray that waits outside of no link", x.link(0, 3), 3);
         Check.due("and was not on the broken one", x.link(4, 3), 0);
+        SlotChip y = Check.chip("2x2:4");
+        y.open(0, 0, 1, 4, 3);
+        y.open(0, 1, 0, 4, 3);
+        y.pair(0, 1);
+        y.feed(0, 3);
+        y.run(8);
+        Check.row("the back's links: no letter yet", place -> y.link(y.route(1, place), 3), 0, 0, 0);
+        y.take(0, 1);
+        y.run(8);
+        Check.row("a letter with OWED alone was on them", place -> y.link(y.route(1, place), 3), 1, 1, 1);
     }
 
     private static void promise7SinceTheChipWasRead() {
@@ -244,6 +254,21 @@ public final class ChipBoundariesTest {
         Check.write(x, "2x2:");
         x.chip();
         Check.row("behind a refused chip()", link -> x.link(link, 3), 1, 1);
+        x.stray(0, 1, false);
+        x.run(3);
+        Check.due("EAST", x.link(3, 3), 1);
+        x.cut(3, true);
+        Check.due("EAST, broken", x.link(3, 3), 1);
+        x.cut(3, false);
+        Check.due("EAST, mended", x.link(3, 3), 1);
+        x.open(0, 0, 1, 1, 1);
+        x.feed(0, 1);
+        x.run(9);
+        Check.due("and a letter", x.link(3, 3), 2);
+        x.move(0);
+        Check.due("moved", x.link(3, 3), 2);
+        x.close(0);
+        Check.due("closed", x.link(3, 3), 2);
     }
 
     private static void promise7Refusals() {

@@ -13,6 +13,8 @@ public final class CircuitBoundariesTest {
         promise15Unknown();
         promise15State();
         promise15Hops();
+        promise15LettersUnderWay();
+        promise15OwedFromBefore();
         promise17Refusals();
         promise17ALetterIsUnderWay();
         promise17Queue();
@@ -188,6 +190,46 @@ public final class CircuitBoundariesTest {
         both.open(0, 0, 2, 1, 1);
         both.open(0, 2, 0, 1, 1);
         Check.due("six and two", both.pair(0, 1), 8);
+    }
+
+    private static void promise15LettersUnderWay() {
+        Check.sentence("15: Two CIRCUITS are paired (a LETTER under way is no reason to refuse it)");
+        SlotChip x = Check.chip("2x2:4");
+        x.open(0, 0, 1, 4, 3);
+        x.open(0, 1, 0, 4, 4);
+        x.feed(0, 5);
+        x.feed(1, 6);
+        x.run(2);
+        Check.row("under way", circuit -> x.circuit(circuit, 13), 2, 2);
+        Check.due("pair(0, 1)", x.pair(0, 1), 2);
+        Check.row("the first one, but for its BACK as before", what -> x.circuit(0, 7 + what), 1, 3, 1, 0, 0, 0, 2, 0);
+        Check.row("and the other one", what -> x.circuit(1, 7 + what), 0, 4, 2, 0, 0, 0, 2, 0);
+        Check.due("they come", x.run(4), 7);
+        Check.row("the first one then", what -> x.circuit(0, 8 + what), 2, 0, 3, 0, 3, 0);
+    }
+
+    private static void promise15OwedFromBefore() {
+        Check.sentence("3: OWED of its BACK (also what was TAKEN ahead of pair())");
+        for (int first = 0; first <= 1; first++) {
+            SlotChip x = Check.chip("2x2:4");
+            x.open(0, 0, 1, 4, 5);
+            x.open(0, 1, 0, 4, 6);
+            x.feed(0, 9);
+            x.feed(1, 9);
+            Check.due("as much as the WINDOWS", x.run(12), 11);
+            x.take(0, 2);
+            x.take(1, 4);
+            x.run(8);
+            Check.row("without a BACK it waits", circuit -> x.circuit(circuit, 11), 2, 4);
+            x.pair(first, 1 - first);
+            Check.row("as before", what -> x.circuit(0, 8 + what), 4, 0, 3, 2, 5, 0);
+            Check.row("the other one, too", what -> x.circuit(1, 8 + what), 3, 0, 2, 4, 6, 0);
+            Check.due("letters with OWED alone bring nothing", x.run(3), 0);
+            Check.row("told by one letter", what -> x.circuit(0, 8 + what), 4, 2, 3, 0, 5, 1);
+            Check.row("told by two", what -> x.circuit(1, 8 + what), 3, 3, 2, 0, 6, 0);
+            Check.due("then the QUEUES go on", x.run(9), 5);
+            Check.row("QUEUES", circuit -> x.circuit(circuit, 8), 2, 0);
+        }
     }
 
     private static void promise17Refusals() {
@@ -480,6 +522,24 @@ public final class CircuitBoundariesTest {
         z.feed(0, 1);
         z.run(12);
         Check.due("2 in 36 is more than 1 in 24", z.fastest(), 0);
+        Check.due("1 in 4000 is less than 1 in 3999", fastestOfOneEach(1, 1), 1);
+        Check.due("2 in 4000 is more than 1 in 3999", fastestOfOneEach(2, 1), 0);
+        Check.due("1 in 4000 is less than 2 in 3999", fastestOfOneEach(1, 2), 1);
+    }
+
+    /** The fastest one of two at TIME 4000, by what each was fed, the second one opened a cycle behind the first. */
+    private static int fastestOfOneEach(int first, int second) {
+        SlotChip x = Check.chip("2x2:4");
+        x.open(0, 0, 1, 1, 9);
+        x.run(1);
+        x.open(0, 1, 0, 1, 9);
+        x.feed(0, first);
+        x.feed(1, second);
+        x.run(39);
+        for (int many = 1; many < 100; many++) {
+            x.run(40);
+        }
+        return x.fastest();
     }
 
     private static void letterLeavesOrNot() {

@@ -13,16 +13,19 @@ public final class StrayBoundariesTest {
         asTheCycleBegins();
         brokenLink();
         letterOnTheLink();
+        letterWithOwedAlone();
         slotOfASoloOne();
         promise23What();
         promise23Delays();
         promise23SinceTheChipWasRead();
         promise24NoneArrived();
         promise24NotCut();
+        promise24FarFromCut();
         promise26Many();
         promise26Seed();
         promise26UpToTwelve();
         promise26Draws();
+        promise26BySeedAlone();
         promise26Several();
         Check.end("StrayBoundariesTest");
     }
@@ -288,6 +291,31 @@ public final class StrayBoundariesTest {
         Check.due("DELAYS", y.arrived(false, 1), 5);
     }
 
+    private static void letterWithOwedAlone() {
+        Check.sentence("3: or a LETTER is on it in this CYCLE (one with OWED alone is a LETTER, too)");
+        SlotChip x = Check.chip("2x2:4");
+        x.open(0, 0, 1, 4, 15);
+        x.open(0, 1, 0, 4, 1);
+        x.pair(0, 1);
+        x.feed(0, 9);
+        x.run(12);
+        x.take(0, 7);
+        x.stray(1, 1, true);
+        x.run(3);
+        Check.due("7 of OWED go by three letters, IN is theirs", x.straying(0, 2), -1);
+        x.run(1);
+        Check.due("then it is free", x.straying(0, 2), 1);
+        Check.due("out", x.run(1), 1);
+        Check.due("DELAY", x.arrived(true, 2), 5);
+        x.take(0, 1);
+        x.stray(0, 0, false);
+        x.run(1);
+        x.stray(0, 0, true);
+        Check.due("OUT is free, the letter is on WEST", x.run(1), 1);
+        Check.due("OUT is the letter's", x.run(1), 0);
+        Check.due("behind it", x.run(1), 1);
+    }
+
     private static void slotOfASoloOne() {
         Check.sentence("3: or its SLOT, the rest of TIME by S, is had by a SOLO CIRCUIT");
         for (int slots = 4; slots <= 10; slots++) {
@@ -410,6 +438,30 @@ public final class StrayBoundariesTest {
         }
     }
 
+    private static void promise24FarFromCut() {
+        Check.sentence("24: on an average (not cut), a ten-thousandth apart");
+        for (boolean urgent : new boolean[] {true, false}) {
+            SlotChip x = Check.chip("2x2:4");
+            arrive(x, urgent, 102);
+            arrive(x, !urgent, 103);
+            Check.due("how many", x.arrived(urgent, 0), 103);
+            Check.due("how many of the others", x.arrived(!urgent, 0), 104);
+            Check.due("207 by 103 is more than 209 by 104", x.faster(), urgent ? -1 : 1);
+        }
+    }
+
+    /** So many of DELAY 2, by four at once, and one of DELAY 3. */
+    private static void arrive(SlotChip x, boolean urgent, int many) {
+        for (int stray = 0; stray < many; stray++) {
+            x.stray(stray % 4, stray % 4, urgent);
+            if (stray % 4 == 3 || stray == many - 1) {
+                x.run(2);
+            }
+        }
+        x.stray(0, 1, urgent);
+        x.run(3);
+    }
+
     private static void promise26Many() {
         Check.sentence("26: OUTSIDE: many (1 to 12)");
         for (int many = 1; many <= 12; many++) {
@@ -471,6 +523,21 @@ public final class StrayBoundariesTest {
                     Check.due("FROM by seed " + first, x.straying(stray, 4), 6 * drawn[0]);
                     Check.due("TO by seed " + first, x.straying(stray, 0), drawn[1]);
                     Check.due("urgent by seed " + first, x.straying(stray, 1), drawn[2]);
+                }
+            }
+        }
+    }
+
+    private static void promise26BySeedAlone() {
+        Check.sentence("26: So many STRAYS come by a SEED (not by that of the call ahead)");
+        for (int seed = 0; seed < 40; seed++) {
+            SlotChip x = Check.chip("3x3:4");
+            x.storm(4, seed);
+            x.storm(4, 1000 * seed + 7);
+            x.storm(4, seed);
+            for (int stray = 0; stray < 4; stray++) {
+                for (int what : new int[] {0, 1, 4}) {
+                    Check.due("seed " + seed + " again", x.straying(8 + stray, what), x.straying(stray, what));
                 }
             }
         }

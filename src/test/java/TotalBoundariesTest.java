@@ -26,6 +26,8 @@ public final class TotalBoundariesTest {
         callsRead();
         callsOfCircuits();
         callsStorm();
+        callsUse();
+        callsKeepTheTable();
         Check.end("TotalBoundariesTest");
     }
 
@@ -461,5 +463,44 @@ public final class TotalBoundariesTest {
         Check.due("all arrived", came, 251 * 12);
         Check.due("the 510th and the 511th call", x.arrived(true, 0) + x.arrived(false, 0), came);
         Check.due("the 512th call", x.count(2), 0);
+    }
+
+    private static void callsUse() {
+        Check.sentence("What it is: at most 512 calls: how often a LINK was used");
+        SlotChip x = bySevenCalls();
+        x.open(0, 2, 3, 4, 15);
+        x.open(0, 3, 2, 4, 1);
+        x.pair(0, 1);
+        for (int call = 11; call <= 505; call += 3) {
+            x.feed(0, 15);
+            x.run(40);
+            x.take(0, 15);
+        }
+        Check.due("the 506th call: IN of 2", x.link(12, 3), 165 * 15);
+        Check.due("EAST of 2", x.link(15, 3), 165 * 15);
+        Check.due("WEST of 3: five letters tell of 15, but those of the last", x.link(23, 3), 164 * 5);
+        Check.due("the one that was used most", x.about(7), 12);
+    }
+
+    private static void callsKeepTheTable() {
+        Check.sentence("What it is: at most 512 calls: the rest of TIME by S");
+        for (int slots = 4; slots <= 10; slots++) {
+            SlotChip x = Check.chip("2x2:" + slots);
+            x.open(4, 0, 1, 2, 15);
+            for (int many = 0; many < 440; many++) {
+                x.run(40);
+            }
+            x.feed(0, 15);
+            int left = 0;
+            for (int time = 440 * 40; time < 440 * 40 + 11; time++) {
+                left += time % slots < 2 ? 1 : 0;
+                x.run(1);
+                Check.due("QUEUE behind cycle " + time + ", S " + slots, x.circuit(0, 8), 15 - left);
+            }
+            int time = 440 * 40 + 11;
+            x.stray(0, 0, true);
+            x.run(1);
+            Check.due("a stray at " + time + ", S " + slots, x.straying(0, 2), time % slots < 2 ? -1 : 0);
+        }
     }
 }
